@@ -39,6 +39,7 @@ public final class PromiseTest {
         follows();
         trace();
         endless();
+        everyState();
         System.out.println(wrong == 0 ? "all answers are as due" : wrong + " answers are not as due");
         if (wrong != 0) {
             System.exit(1);
@@ -208,6 +209,14 @@ public final class PromiseTest {
         due("dropRule(0) of one", x.dropRule(0), 0);
         due("dropRule(0) of none left", x.dropRule(0), -1);
         dropFromFull();
+        SymmetricChecker y = new SymmetricChecker(2);
+        y.addRule(8, ANY, 0, 0);
+        y.addRule(1, ANY, 3, 0);    // 0 -> 1, however many others are at 0
+        y.addRule(0, ANY, 8, 0);
+        due("choices before the first is dropped", y.choices(54), 4);
+        due("dropRule(0) of three", y.dropRule(0), 2);
+        due("choices after the first is dropped", y.choices(54), 4);
+        due("follows by the crowd's rule", y.follows(54, 55), 1);
     }
 
     private static void dropFromFull() {
@@ -585,6 +594,11 @@ public final class PromiseTest {
         due("follows(1, 11)", x.follows(1, 11), 1);
         due("depth(2)", x.depth(2), 3);
         dueTrace(x, 9, 10, 11);
+        SymmetricChecker y = new SymmetricChecker(1);
+        y.addRule(0, ANY, ROOM, 1);
+        y.addRule(1, ANY, ROOM, 3);
+        y.addAlarm(1, 1, 3);
+        dueTrace(y, 9, 0, 1);
     }
 
     private static void dueTrace(SymmetricChecker x, int... codes) {
@@ -620,5 +634,48 @@ public final class PromiseTest {
         due("endless() of a long way", z.endless(), 0);
         z.addRule(8, ANY, 11, 0);
         due("endless() of a long way with a step in place at its end", z.endless(), 81);
+        deadEndAmongEqualDepths(1, 2, 7);
+        deadEndAmongEqualDepths(2, 1, 7);
+        deadEndAmongEqualDepths(1, 2, 5);
+        deadEndAmongEqualDepths(2, 1, 5);
+    }
+
+    /** From the start to both others, and from one of them to the other: no walk is longer than 2. */
+    private static void deadEndAmongEqualDepths(int first, int second, int last) {
+        SymmetricChecker x = new SymmetricChecker(1);
+        x.addRule(first, ANY, ROOM, 0);
+        x.addRule(second, ANY, ROOM, 0);
+        x.addRule(last, ANY, ROOM, 0);
+        due("reachable() before a dead end", x.reachable(), 3);
+        due("radius() before a dead end", x.radius(), 1);
+        due("endless() before a dead end", x.endless(), 0);
+    }
+
+    /** Every question on an object of which all 1215 states are reachable. */
+    private static void everyState() {
+        SymmetricChecker x = allStates(4);
+        x.addAlarm(0, 1, 3);
+        promise = 11;
+        due("radius() of all states", x.radius(), 7);
+        promise = 12;
+        due("layer(0) of all states", x.layer(0), 1);
+        due("layer(1) of all states", x.layer(1), 8 + 1 + 4);
+        due("layer(7) of all states", x.layer(7), 16 * 4);
+        due("layer(8) of all states", x.layer(8), 0);
+        due("layer(-2) of all states", x.layer(-2), 0);
+        promise = 13;
+        due("badStates() of all states", x.badStates(), 65 * 15);
+        promise = 14;
+        due("violation() of all states", x.violation(), 0);
+        promise = 15;
+        due("stuckStates() of all states", x.stuckStates(), 0);
+        promise = 18;
+        dueTrace(x, 972);
+        x.clearAlarms();
+        x.addAlarm(2, 4, 2);
+        // The shared value changes only by a process at 0, and late, since that keeps the codes least.
+        dueTrace(x, 972, 972 + 2, 972 + 8, 972 + 26, 972 + 81 + 26, 972 + 162 + 26, 1214);
+        promise = 19;
+        due("endless() of all states", x.endless(), 1215);
     }
 }
