@@ -10,11 +10,9 @@ import java.util.Set;
  * Compares the class, over many made-up runs of calls, with a slow model that is written from the
  * document's terms word by word. The runs come from a fixed seed, so they are always the same.
  */
-public final class ModelTest {
+public final class ModelTest extends Answers {
     private static final int RUNS = 300;
 
-    private static int wrong = 0;
-    private static int run = 0;
     private static long seed = 20261115L;
 
     record Rule(int from, int to, int sharedIs, int sharedBecomes, int crowd, int most, int token) { }
@@ -28,18 +26,12 @@ public final class ModelTest {
         return (int) ((seed >>> 33) % bound);
     }
 
-    private static void due(String call, int got, int want) {
-        if (got != want) {
-            wrong++;
-            System.out.println("run " + run + ": " + call + " answered " + got + ", due is " + want);
-        }
-    }
-
     public static void main(String[] args) {
         int violations = 0;
         int partlyEndless = 0;
         int longTraces = 0;
-        for (run = 1; run <= RUNS; run++) {
+        for (int run = 1; run <= RUNS; run++) {
+            about("run " + run);
             Model m = new Model(1 + below(4));
             changeAndAsk(m);
             compareCounts(remade(m), m);
@@ -49,13 +41,9 @@ public final class ModelTest {
             partlyEndless += m.endless.size() > 0 && m.endless.size() < m.depths.size() ? 1 : 0;
         }
         if (violations < 50 || partlyEndless < 50 || longTraces < 10) {
-            wrong++;
-            System.out.println("the runs are too plain: " + violations + " " + partlyEndless + " " + longTraces);
+            fail("the runs are too plain: " + violations + " " + partlyEndless + " " + longTraces);
         }
-        System.out.println(wrong == 0 ? "all answers are as due" : wrong + " answers are not as due");
-        if (wrong != 0) {
-            System.exit(1);
-        }
+        end();
     }
 
     /** Changes and questions in turn, all on one object: at most 24 * (1 + 14) calls. */

@@ -1,20 +1,5 @@
 /** For each promise of the document: ordinary inputs, the edges that it names, and wrong inputs. */
-public final class PromiseTest {
-    private static final int ANY = 15;      // sharing: any shared value, stays as it was
-    private static final int ROOM = 11;     // crowding: at most 3 others at place 2, so never full
-    private static final int LOW = Integer.MIN_VALUE;
-    private static final int HIGH = Integer.MAX_VALUE;
-
-    private static int wrong = 0;
-    private static int promise = 0;
-
-    private static void due(String call, int got, int want) {
-        if (got != want) {
-            wrong++;
-            System.out.println("promise " + promise + ": " + call + " answered " + got + ", due is " + want);
-        }
-    }
-
+public final class PromiseTest extends Answers {
     public static void main(String[] args) {
         newObject();
         processes();
@@ -40,38 +25,11 @@ public final class PromiseTest {
         trace();
         endless();
         everyState();
-        System.out.println(wrong == 0 ? "all answers are as due" : wrong + " answers are not as due");
-        if (wrong != 0) {
-            System.exit(1);
-        }
-    }
-
-    private static int code(int shared, int holder, int... places) {
-        int code = 0;
-        int unit = 1;
-        for (int place : places) {
-            code += unit * place;
-            unit *= 3;
-        }
-        return code + unit * shared + 3 * unit * holder;
-    }
-
-    /** Every process goes 0 -> 1 -> 2, whatever the others do. */
-    private static SymmetricChecker walkers(int processes) {
-        SymmetricChecker x = new SymmetricChecker(processes);
-        x.addRule(1, ANY, ROOM, 0);
-        x.addRule(5, ANY, ROOM, 0);
-        return x;
-    }
-
-    private static SymmetricChecker withRule(int processes, int move, int sharing, int crowding, int token) {
-        SymmetricChecker x = new SymmetricChecker(processes);
-        x.addRule(move, sharing, crowding, token);
-        return x;
+        end();
     }
 
     private static void newObject() {
-        promise = 1;
+        about("promise 1");
         int[] given = {LOW, -1, 0, 1, 2, 3, 4, 5, HIGH};
         int[] kept = {1, 1, 1, 1, 2, 3, 4, 4, 4};
         for (int k = 0; k < given.length; k++) {
@@ -94,7 +52,7 @@ public final class PromiseTest {
     }
 
     private static void processes() {
-        promise = 2;
+        about("promise 2");
         for (int p = 1; p <= 4; p++) {
             SymmetricChecker x = walkers(p);
             due("processes()", x.processes(), p);
@@ -105,7 +63,7 @@ public final class PromiseTest {
     }
 
     private static void limit() {
-        promise = 3;
+        about("promise 3");
         int[] limits = {18, 81, 324, 1215};
         for (int p = 1; p <= 4; p++) {
             SymmetricChecker x = new SymmetricChecker(p);
@@ -118,7 +76,7 @@ public final class PromiseTest {
     }
 
     private static void addRule() {
-        promise = 4;
+        about("promise 4");
         SymmetricChecker x = new SymmetricChecker(2);
         refuseWrongRules(x, 0);
         due("addRule(0, 0, 0, 0)", x.addRule(0, 0, 0, 0), 1);
@@ -156,7 +114,7 @@ public final class PromiseTest {
 
     /** What move and sharing mean, told by the one state that follows. */
     private static void ruleParts() {
-        promise = 4;
+        about("promise 4");
         for (int from = 0; from < 3; from++) {
             for (int to = 0; to < 3; to++) {
                 for (int is = 0; is < 4; is++) {
@@ -183,7 +141,7 @@ public final class PromiseTest {
     }
 
     private static void dropRule() {
-        promise = 5;
+        about("promise 5");
         SymmetricChecker x = new SymmetricChecker(1);
         due("dropRule(0) of none", x.dropRule(0), -1);
         due("dropRule(-1) of none", x.dropRule(-1), -1);
@@ -234,7 +192,7 @@ public final class PromiseTest {
     }
 
     private static void addAlarm() {
-        promise = 6;
+        about("promise 6");
         SymmetricChecker x = new SymmetricChecker(1);
         refuseWrongAlarms(x);
         due("clearAlarms() after refused calls", x.clearAlarms(), 0);
@@ -271,7 +229,7 @@ public final class PromiseTest {
 
     /** One process that visits all nine pairs of a place and a shared value, and then four walkers. */
     private static void alarmParts() {
-        promise = 6;
+        about("promise 6");
         SymmetricChecker x = walkers(1);
         for (int from = 0; from < 3; from++) {
             x.addRule(4 * from, 1, ROOM, 0);
@@ -295,7 +253,7 @@ public final class PromiseTest {
     }
 
     private static void clearAlarms() {
-        promise = 7;
+        about("promise 7");
         SymmetricChecker x = walkers(2);
         due("clearAlarms() of none", x.clearAlarms(), 0);
         x.addAlarm(0, 1, 3);
@@ -313,7 +271,7 @@ public final class PromiseTest {
     }
 
     private static void rules() {
-        promise = 8;
+        about("promise 8");
         SymmetricChecker x = new SymmetricChecker(3);
         due("rules() of none", x.rules(), 0);
         for (int n = 1; n <= 12; n++) {
@@ -331,7 +289,7 @@ public final class PromiseTest {
     }
 
     private static void reachable() {
-        promise = 9;
+        about("promise 9");
         int[] walked = {3, 9, 27, 81};
         for (int p = 1; p <= 4; p++) {
             due("reachable() for " + p, walkers(p).reachable(), walked[p - 1]);
@@ -347,19 +305,8 @@ public final class PromiseTest {
         due("reachable() with no rule for the start", y.reachable(), 1);
     }
 
-    /** Places, shared value and token go round each for itself. */
-    private static SymmetricChecker allStates(int processes) {
-        SymmetricChecker x = walkers(processes);
-        x.addRule(2, ANY, ROOM, 0);
-        x.addRule(0, 1, ROOM, 0);
-        x.addRule(0, 6, ROOM, 0);
-        x.addRule(0, ANY, ROOM, 1);
-        x.addRule(6, ANY, ROOM, 0);
-        return x;
-    }
-
     private static void depth() {
-        promise = 10;
+        about("promise 10");
         SymmetricChecker x = walkers(2);
         for (int a = 0; a < 3; a++) {
             for (int b = 0; b < 3; b++) {
@@ -380,7 +327,7 @@ public final class PromiseTest {
     }
 
     private static void radius() {
-        promise = 11;
+        about("promise 11");
         due("radius() of the start alone", new SymmetricChecker(4).radius(), 0);
         for (int p = 1; p <= 4; p++) {
             due("radius() for " + p, walkers(p).radius(), 2 * p);
@@ -394,7 +341,7 @@ public final class PromiseTest {
     }
 
     private static void layer() {
-        promise = 12;
+        about("promise 12");
         SymmetricChecker x = walkers(2);
         int[] counts = {1, 2, 3, 2, 1};
         for (int d = 0; d < counts.length; d++) {
@@ -408,7 +355,7 @@ public final class PromiseTest {
     }
 
     private static void badStates() {
-        promise = 13;
+        about("promise 13");
         SymmetricChecker x = walkers(2);
         due("badStates() without alarms", x.badStates(), 0);
         x.addAlarm(2, 1, 3);
@@ -429,7 +376,7 @@ public final class PromiseTest {
     }
 
     private static void violation() {
-        promise = 14;
+        about("promise 14");
         SymmetricChecker x = walkers(3);
         due("violation() without alarms", x.violation(), -1);
         x.addAlarm(1, 1, 1);
@@ -448,7 +395,7 @@ public final class PromiseTest {
     }
 
     private static void stuckStates() {
-        promise = 15;
+        about("promise 15");
         due("stuckStates() of the start alone", new SymmetricChecker(2).stuckStates(), 1);
         SymmetricChecker x = walkers(2);
         due("stuckStates() of walkers", x.stuckStates(), 1);
@@ -467,7 +414,7 @@ public final class PromiseTest {
     }
 
     private static void choices() {
-        promise = 16;
+        about("promise 16");
         SymmetricChecker x = new SymmetricChecker(2);
         due("choices(0) without rules", x.choices(0), 0);
         x.addRule(1, ANY, ROOM, 0);
@@ -493,7 +440,7 @@ public final class PromiseTest {
 
     /** Only the other processes are counted, whatever the place of the one that takes the rule. */
     private static void crowds() {
-        promise = 16;
+        about("promise 16");
         int[][] states = {{0, 0, 0, 0}, {0, 0, 0, 1}, {0, 1, 1, 1}, {0, 2, 2, 1}, {2, 0, 1, 0}, {0, 2, 2, 2}};
         int[][] at = {{4, 0, 0}, {3, 1, 0}, {1, 3, 0}, {1, 1, 2}, {2, 1, 1}, {1, 0, 3}};
         for (int crowd = 0; crowd < 3; crowd++) {
@@ -510,7 +457,7 @@ public final class PromiseTest {
     }
 
     private static void tokens() {
-        promise = 16;
+        about("promise 16");
         int[][] due = {{2, 2, 2}, {0, 0, 2}, {1, 1, 0}, {1, 1, 0}, {1, 1, 2}};
         for (int token = 0; token <= 4; token++) {
             SymmetricChecker x = withRule(2, 1, ANY, ROOM, token);
@@ -522,7 +469,7 @@ public final class PromiseTest {
     }
 
     private static void follows() {
-        promise = 17;
+        about("promise 17");
         SymmetricChecker x = walkers(2);
         due("follows of the start", x.follows(54, 55), 1);
         due("follows of the start by the other", x.follows(54, 57), 1);
@@ -558,7 +505,7 @@ public final class PromiseTest {
     }
 
     private static void trace() {
-        promise = 18;
+        about("promise 18");
         SymmetricChecker x = walkers(2);
         for (int i : new int[] {LOW, -1, 0, 1, HIGH}) {
             due("trace(" + i + ") without alarms", x.trace(i), -1);
@@ -601,17 +548,8 @@ public final class PromiseTest {
         dueTrace(y, 9, 0, 1);
     }
 
-    private static void dueTrace(SymmetricChecker x, int... codes) {
-        for (int i = 0; i < codes.length; i++) {
-            due("trace(" + i + ")", x.trace(i), codes[i]);
-        }
-        for (int i : new int[] {LOW, -1, codes.length, codes.length + 1, HIGH}) {
-            due("trace(" + i + ")", x.trace(i), -2);
-        }
-    }
-
     private static void endless() {
-        promise = 19;
+        about("promise 19");
         due("endless() without rules", new SymmetricChecker(3).endless(), 0);
         SymmetricChecker x = walkers(2);
         due("endless() of walkers", x.endless(), 0);
@@ -655,27 +593,27 @@ public final class PromiseTest {
     private static void everyState() {
         SymmetricChecker x = allStates(4);
         x.addAlarm(0, 1, 3);
-        promise = 11;
+        about("promise 11");
         due("radius() of all states", x.radius(), 7);
-        promise = 12;
+        about("promise 12");
         due("layer(0) of all states", x.layer(0), 1);
         due("layer(1) of all states", x.layer(1), 8 + 1 + 4);
         due("layer(7) of all states", x.layer(7), 16 * 4);
         due("layer(8) of all states", x.layer(8), 0);
         due("layer(-2) of all states", x.layer(-2), 0);
-        promise = 13;
+        about("promise 13");
         due("badStates() of all states", x.badStates(), 65 * 15);
-        promise = 14;
+        about("promise 14");
         due("violation() of all states", x.violation(), 0);
-        promise = 15;
+        about("promise 15");
         due("stuckStates() of all states", x.stuckStates(), 0);
-        promise = 18;
+        about("promise 18");
         dueTrace(x, 972);
         x.clearAlarms();
         x.addAlarm(2, 4, 2);
         // The shared value changes only by a process at 0, and late, since that keeps the codes least.
         dueTrace(x, 972, 972 + 2, 972 + 8, 972 + 26, 972 + 81 + 26, 972 + 162 + 26, 1214);
-        promise = 19;
+        about("promise 19");
         due("endless() of all states", x.endless(), 1215);
     }
 }
