@@ -4,55 +4,55 @@
  */
 public final class PromiseBoundaryTest extends Answers {
     public static void main(String[] args) {
-        tooFewProcesses();
-        tooManyProcesses();
-        emptyAtFirst();
-        processes();
-        limit();
-        ruleAtTheEnd();
-        moveParts();
-        sharingParts();
-        crowdingParts();
-        wrongMove();
-        wrongSharing();
-        wrongCrowding();
-        wrongToken();
-        twelveRules();
-        rulesHeldNow();
-        droppedPosition();
-        noSuchRule();
-        rulesLeft();
-        alarmAtTheEnd();
-        wrongPlace();
-        wrongLeast();
-        wrongShared();
-        fourAlarms();
-        alarmsNow();
-        clearAlarms();
-        rules();
-        reachable();
-        depth();
-        depthOfNoCode();
-        depthOfUnreachable();
-        radius();
-        layer();
-        layerOfNone();
-        badStates();
-        violation();
-        noViolation();
-        stuckStates();
-        choices();
-        choicesOfNoCode();
-        choicesOfUnreachable();
-        follows();
-        followsOfNoCode();
-        followsOfUnreachable();
-        traceEnd();
-        traceBefore();
-        noTrace();
-        noSuchDepth();
-        endless();
-        everyLength();
+        test(PromiseBoundaryTest::tooFewProcesses);
+        test(PromiseBoundaryTest::tooManyProcesses);
+        test(PromiseBoundaryTest::emptyAtFirst);
+        test(PromiseBoundaryTest::processes);
+        test(PromiseBoundaryTest::limit);
+        test(PromiseBoundaryTest::ruleAtTheEnd);
+        test(PromiseBoundaryTest::moveParts);
+        test(PromiseBoundaryTest::sharingParts);
+        test(PromiseBoundaryTest::crowdingParts);
+        test(PromiseBoundaryTest::wrongMove);
+        test(PromiseBoundaryTest::wrongSharing);
+        test(PromiseBoundaryTest::wrongCrowding);
+        test(PromiseBoundaryTest::wrongToken);
+        test(PromiseBoundaryTest::twelveRules);
+        test(PromiseBoundaryTest::rulesHeldNow);
+        test(PromiseBoundaryTest::droppedPosition);
+        test(PromiseBoundaryTest::noSuchRule);
+        test(PromiseBoundaryTest::rulesLeft);
+        test(PromiseBoundaryTest::alarmAtTheEnd);
+        test(PromiseBoundaryTest::wrongPlace);
+        test(PromiseBoundaryTest::wrongLeast);
+        test(PromiseBoundaryTest::wrongShared);
+        test(PromiseBoundaryTest::fourAlarms);
+        test(PromiseBoundaryTest::alarmsNow);
+        test(PromiseBoundaryTest::clearAlarms);
+        test(PromiseBoundaryTest::rules);
+        test(PromiseBoundaryTest::reachable);
+        test(PromiseBoundaryTest::depth);
+        test(PromiseBoundaryTest::depthOfNoCode);
+        test(PromiseBoundaryTest::depthOfUnreachable);
+        test(PromiseBoundaryTest::radius);
+        test(PromiseBoundaryTest::layer);
+        test(PromiseBoundaryTest::layerOfNone);
+        test(PromiseBoundaryTest::badStates);
+        test(PromiseBoundaryTest::violation);
+        test(PromiseBoundaryTest::noViolation);
+        test(PromiseBoundaryTest::stuckStates);
+        test(PromiseBoundaryTest::choices);
+        test(PromiseBoundaryTest::choicesOfNoCode);
+        test(PromiseBoundaryTest::choicesOfUnreachable);
+        test(PromiseBoundaryTest::follows);
+        test(PromiseBoundaryTest::followsOfNoCode);
+        test(PromiseBoundaryTest::followsOfUnreachable);
+        test(PromiseBoundaryTest::traceEnd);
+        test(PromiseBoundaryTest::traceBefore);
+        test(PromiseBoundaryTest::noTrace);
+        test(PromiseBoundaryTest::noSuchDepth);
+        test(PromiseBoundaryTest::endless);
+        test(PromiseBoundaryTest::everyLength);
         end();
     }
 
@@ -283,6 +283,15 @@ public final class PromiseBoundaryTest extends Answers {
                 }
             }
         }
+        // Three rules that differ in their crowding: the second can be taken however many others are at 0.
+        SymmetricChecker y = new SymmetricChecker(2);
+        y.addRule(8, ANY, 0, 0);
+        y.addRule(1, ANY, 3, 0);
+        y.addRule(0, ANY, 8, 0);
+        due("choices(54) before the first is dropped", y.choices(54), 4);
+        y.dropRule(0);
+        due("choices(54) after the first is dropped", y.choices(54), 4);
+        due("follows(54, 55) after the first is dropped", y.follows(54, 55), 1);
     }
 
     private static void noSuchRule() {
@@ -692,6 +701,11 @@ public final class PromiseBoundaryTest extends Answers {
         due("depth(1)", deep.depth(1), 2);
         due("follows(1, 11)", deep.follows(1, 11), 1);
         dueTrace(deep, 9, 10, 11);
+        SymmetricChecker zero = new SymmetricChecker(1);
+        zero.addRule(0, ANY, ROOM, 1);
+        zero.addRule(1, ANY, ROOM, 3);
+        zero.addAlarm(1, 1, 3);
+        dueTrace(zero, 9, 0, 1);
     }
 
     private static void noTrace() {
@@ -765,5 +779,20 @@ public final class PromiseBoundaryTest extends Answers {
         y.addRule(6, 6, ROOM, 0);
         due("reachable() where walks of length 14 start", y.reachable(), 243);
         due("endless() where walks of length 14 start", y.endless(), 0);
+        deadEndAmongEqualDepths(1, 2, 7);
+        deadEndAmongEqualDepths(2, 1, 7);
+        deadEndAmongEqualDepths(1, 2, 5);
+        deadEndAmongEqualDepths(2, 1, 5);
+    }
+
+    /** From the start to both others, and from one of them to the other: no walk is longer than 2. */
+    private static void deadEndAmongEqualDepths(int first, int second, int last) {
+        SymmetricChecker x = new SymmetricChecker(1);
+        x.addRule(first, ANY, ROOM, 0);
+        x.addRule(second, ANY, ROOM, 0);
+        x.addRule(last, ANY, ROOM, 0);
+        due("reachable() before a dead end", x.reachable(), 3);
+        due("radius() before a dead end", x.radius(), 1);
+        due("endless() before a dead end", x.endless(), 0);
     }
 }

@@ -1,30 +1,27 @@
 /** For each promise of the document: ordinary inputs, the edges that it names, and wrong inputs. */
 public final class PromiseTest extends Answers {
     public static void main(String[] args) {
-        newObject();
-        processes();
-        limit();
-        addRule();
-        ruleParts();
-        dropRule();
-        addAlarm();
-        alarmParts();
-        clearAlarms();
-        rules();
-        reachable();
-        depth();
-        radius();
-        layer();
-        badStates();
-        violation();
-        stuckStates();
-        choices();
-        crowds();
-        tokens();
-        follows();
-        trace();
-        endless();
-        everyState();
+        test(PromiseTest::newObject);
+        test(PromiseTest::processes);
+        test(PromiseTest::limit);
+        test(PromiseTest::addRule);
+        test(PromiseTest::ruleParts);
+        test(PromiseTest::dropRule);
+        test(PromiseTest::addAlarm);
+        test(PromiseTest::clearAlarms);
+        test(PromiseTest::rules);
+        test(PromiseTest::reachable);
+        test(PromiseTest::depth);
+        test(PromiseTest::radius);
+        test(PromiseTest::layer);
+        test(PromiseTest::badStates);
+        test(PromiseTest::violation);
+        test(PromiseTest::stuckStates);
+        test(PromiseTest::choices);
+        test(PromiseTest::follows);
+        test(PromiseTest::trace);
+        test(PromiseTest::endless);
+        test(PromiseTest::everyState);
         end();
     }
 
@@ -167,14 +164,6 @@ public final class PromiseTest extends Answers {
         due("dropRule(0) of one", x.dropRule(0), 0);
         due("dropRule(0) of none left", x.dropRule(0), -1);
         dropFromFull();
-        SymmetricChecker y = new SymmetricChecker(2);
-        y.addRule(8, ANY, 0, 0);
-        y.addRule(1, ANY, 3, 0);    // 0 -> 1, however many others are at 0
-        y.addRule(0, ANY, 8, 0);
-        due("choices before the first is dropped", y.choices(54), 4);
-        due("dropRule(0) of three", y.dropRule(0), 2);
-        due("choices after the first is dropped", y.choices(54), 4);
-        due("follows by the crowd's rule", y.follows(54, 55), 1);
     }
 
     private static void dropFromFull() {
@@ -224,31 +213,6 @@ public final class PromiseTest extends Answers {
         for (int bad : new int[] {LOW, -1, 4, HIGH}) {
             due("addAlarm(0, 1, " + bad + ")", x.addAlarm(0, 1, bad), -3);
             due("addAlarm(2, 4, " + bad + ")", x.addAlarm(2, 4, bad), -3);
-        }
-    }
-
-    /** One process that visits all nine pairs of a place and a shared value, and then four walkers. */
-    private static void alarmParts() {
-        about("promise 6");
-        SymmetricChecker x = walkers(1);
-        for (int from = 0; from < 3; from++) {
-            x.addRule(4 * from, 1, ROOM, 0);
-            x.addRule(4 * from, 6, ROOM, 0);
-        }
-        for (int place = 0; place < 3; place++) {
-            for (int shared = 0; shared <= 3; shared++) {
-                x.addAlarm(place, 1, shared);
-                due("badStates() by " + place + " and " + shared, x.badStates(), shared == 3 ? 3 : 1);
-                due("violation() by " + place + " and " + shared, x.violation(), place + shared % 3);
-                x.clearAlarms();
-            }
-        }
-        SymmetricChecker y = walkers(4);
-        int[] atLeast = {65, 33, 9, 1};
-        for (int least = 1; least <= 4; least++) {
-            y.addAlarm(1, least, 3);
-            due("badStates() by 1 and least " + least, y.badStates(), atLeast[least - 1]);
-            y.clearAlarms();
         }
     }
 
@@ -438,36 +402,6 @@ public final class PromiseTest extends Answers {
         due("choices(1215)", y.choices(1215), -1);
     }
 
-    /** Only the other processes are counted, whatever the place of the one that takes the rule. */
-    private static void crowds() {
-        about("promise 16");
-        int[][] states = {{0, 0, 0, 0}, {0, 0, 0, 1}, {0, 1, 1, 1}, {0, 2, 2, 1}, {2, 0, 1, 0}, {0, 2, 2, 2}};
-        int[][] at = {{4, 0, 0}, {3, 1, 0}, {1, 3, 0}, {1, 1, 2}, {2, 1, 1}, {1, 0, 3}};
-        for (int crowd = 0; crowd < 3; crowd++) {
-            for (int most = 0; most < 4; most++) {
-                SymmetricChecker x = withRule(4, 1, ANY, 4 * crowd + most, 0);
-                for (int k = 0; k < states.length; k++) {
-                    int others = crowd == 0 ? at[k][0] - 1 : at[k][crowd];
-                    int want = others <= most ? at[k][0] : 0;
-                    String call = "choices of state " + k + " by crowd " + crowd + " and most " + most;
-                    due(call, x.choices(code(0, 4, states[k])), want);
-                }
-            }
-        }
-    }
-
-    private static void tokens() {
-        about("promise 16");
-        int[][] due = {{2, 2, 2}, {0, 0, 2}, {1, 1, 0}, {1, 1, 0}, {1, 1, 2}};
-        for (int token = 0; token <= 4; token++) {
-            SymmetricChecker x = withRule(2, 1, ANY, ROOM, token);
-            for (int holder = 0; holder <= 2; holder++) {
-                String call = "choices with token " + token + " and holder " + holder;
-                due(call, x.choices(code(0, holder, 0, 0)), due[token][holder]);
-            }
-        }
-    }
-
     private static void follows() {
         about("promise 17");
         SymmetricChecker x = walkers(2);
@@ -486,22 +420,6 @@ public final class PromiseTest extends Answers {
         x.addRule(0, ANY, ROOM, 0);
         due("follows itself by a step in place", x.follows(54, 54), 1);
         due("follows(58, 58)", x.follows(58, 58), 0);
-        tokenSteps();
-    }
-
-    /** Process 1 goes 0 -> 1 beside a process at 2; the token's holder afterwards, or -1 if it can't. */
-    private static void tokenSteps() {
-        int[][] after = {{0, 1, 2}, {-1, -1, 1}, {-1, 2, -1}, {-1, 1, -1}, {0, -1, 2}};
-        for (int token = 0; token <= 4; token++) {
-            SymmetricChecker x = withRule(2, 1, ANY, ROOM, token);
-            for (int holder = 0; holder <= 2; holder++) {
-                for (int next = 0; next <= 2; next++) {
-                    String call = "follows with token " + token + " from holder " + holder + " to " + next;
-                    int got = x.follows(code(1, holder, 2, 0), code(1, next, 2, 1));
-                    due(call, got, after[token][holder] == next ? 1 : 0);
-                }
-            }
-        }
     }
 
     private static void trace() {
@@ -523,29 +441,6 @@ public final class PromiseTest extends Answers {
         x.dropRule(1);
         due("trace(0) after a drop", x.trace(0), -1);
         due("trace(9) after a drop", x.trace(9), -1);
-        traceBesideLesserCodes();
-    }
-
-    /** Taking the token lowers the code, so that deeper states have lesser codes than the trace's. */
-    private static void traceBesideLesserCodes() {
-        SymmetricChecker x = new SymmetricChecker(1);
-        x.addRule(1, ANY, ROOM, 0);
-        x.addRule(4, ANY, ROOM, 1);
-        x.addRule(5, ANY, ROOM, 2);
-        x.addRule(5, ANY, ROOM, 0);
-        x.addAlarm(1, 1, 3);
-        due("depth(1)", x.depth(1), 2);
-        dueTrace(x, 9, 10);
-        x.clearAlarms();
-        x.addAlarm(2, 1, 3);
-        due("follows(1, 11)", x.follows(1, 11), 1);
-        due("depth(2)", x.depth(2), 3);
-        dueTrace(x, 9, 10, 11);
-        SymmetricChecker y = new SymmetricChecker(1);
-        y.addRule(0, ANY, ROOM, 1);
-        y.addRule(1, ANY, ROOM, 3);
-        y.addAlarm(1, 1, 3);
-        dueTrace(y, 9, 0, 1);
     }
 
     private static void endless() {
@@ -572,21 +467,6 @@ public final class PromiseTest extends Answers {
         due("endless() of a long way", z.endless(), 0);
         z.addRule(8, ANY, 11, 0);
         due("endless() of a long way with a step in place at its end", z.endless(), 81);
-        deadEndAmongEqualDepths(1, 2, 7);
-        deadEndAmongEqualDepths(2, 1, 7);
-        deadEndAmongEqualDepths(1, 2, 5);
-        deadEndAmongEqualDepths(2, 1, 5);
-    }
-
-    /** From the start to both others, and from one of them to the other: no walk is longer than 2. */
-    private static void deadEndAmongEqualDepths(int first, int second, int last) {
-        SymmetricChecker x = new SymmetricChecker(1);
-        x.addRule(first, ANY, ROOM, 0);
-        x.addRule(second, ANY, ROOM, 0);
-        x.addRule(last, ANY, ROOM, 0);
-        due("reachable() before a dead end", x.reachable(), 3);
-        due("radius() before a dead end", x.radius(), 1);
-        due("endless() before a dead end", x.endless(), 0);
     }
 
     /** Every question on an object of which all 1215 states are reachable. */

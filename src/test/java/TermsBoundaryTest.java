@@ -1,6 +1,6 @@
 import java.util.ArrayList;
 import java.util.List;
-import java.util.function.Consumer;
+import java.util.function.ToIntFunction;
 
 /**
  * A test for each sentence of "What it is" and "Terms" that names a boundary case. The words of the
@@ -8,37 +8,37 @@ import java.util.function.Consumer;
  */
 public final class TermsBoundaryTest extends Answers {
     public static void main(String[] args) {
-        fiveHundredAndTwelveCalls();
-        processNumbers();
-        codeOfAState();
-        holders();
-        codes();
-        startState();
-        allOfTheseHold();
-        placeIsFrom();
-        sharedIs();
-        sharedBecomes();
-        atMostMost();
-        otherProcesses();
-        tokenTake();
-        tokenDropAndHave();
-        tokenNotHave();
-        tokenZero();
-        placeBecomesTo();
-        holderAfterwards();
-        allElseStays();
-        someProcessAndSomeRule();
-        followsItself();
-        zeroSteps();
-        moreSteps();
-        leastSteps();
-        ifThereIsSuchADepth();
-        atLeastLeast();
-        alarmShared();
-        someAlarm();
-        questionsChangeNothing();
-        refusedCallsChangeNothing();
-        orderOfTests();
+        test(TermsBoundaryTest::fiveHundredAndTwelveCalls);
+        test(TermsBoundaryTest::processNumbers);
+        test(TermsBoundaryTest::codeOfAState);
+        test(TermsBoundaryTest::holders);
+        test(TermsBoundaryTest::codes);
+        test(TermsBoundaryTest::startState);
+        test(TermsBoundaryTest::allOfTheseHold);
+        test(TermsBoundaryTest::placeIsFrom);
+        test(TermsBoundaryTest::sharedIs);
+        test(TermsBoundaryTest::sharedBecomes);
+        test(TermsBoundaryTest::atMostMost);
+        test(TermsBoundaryTest::otherProcesses);
+        test(TermsBoundaryTest::tokenTake);
+        test(TermsBoundaryTest::tokenDropAndHave);
+        test(TermsBoundaryTest::tokenNotHave);
+        test(TermsBoundaryTest::tokenZero);
+        test(TermsBoundaryTest::placeBecomesTo);
+        test(TermsBoundaryTest::holderAfterwards);
+        test(TermsBoundaryTest::allElseStays);
+        test(TermsBoundaryTest::someProcessAndSomeRule);
+        test(TermsBoundaryTest::followsItself);
+        test(TermsBoundaryTest::zeroSteps);
+        test(TermsBoundaryTest::moreSteps);
+        test(TermsBoundaryTest::leastSteps);
+        test(TermsBoundaryTest::ifThereIsSuchADepth);
+        test(TermsBoundaryTest::atLeastLeast);
+        test(TermsBoundaryTest::alarmShared);
+        test(TermsBoundaryTest::someAlarm);
+        test(TermsBoundaryTest::questionsChangeNothing);
+        test(TermsBoundaryTest::refusedCallsChangeNothing);
+        test(TermsBoundaryTest::orderOfTests);
         end();
     }
 
@@ -50,9 +50,10 @@ public final class TermsBoundaryTest extends Answers {
             due("dropRule after " + (2 * n + 1) + " calls", x.dropRule(0), 0);
         }
         SymmetricChecker y = new SymmetricChecker(1);
+        int[] round = {1, 2, 3, 4, -4, 4};
         for (int n = 0; n < 512; n++) {
-            due("addAlarm or clearAlarms after " + n + " calls",
-                    n % 6 == 5 ? y.clearAlarms() : y.addAlarm(0, 1, 3), n % 6 < 4 ? n % 6 + 1 : n % 6 == 4 ? -4 : 4);
+            int got = n % 6 == 5 ? y.clearAlarms() : y.addAlarm(0, 1, 3);
+            due("addAlarm or clearAlarms after " + n + " calls", got, round[n % 6]);
         }
         SymmetricChecker z = line();
         z.addAlarm(2, 1, 2);
@@ -228,6 +229,9 @@ public final class TermsBoundaryTest extends Answers {
             SymmetricChecker x = withRule(2, 4 * place, ANY, 4 * place, 0);
             due("choices of one of two at the crowd's place", x.choices(code(0, 2, place, other)), 1);
             due("choices of two at the crowd's place", x.choices(code(0, 2, place, place)), 0);
+            SymmetricChecker beside = withRule(2, 4 * other, ANY, 4 * place, 0);
+            due("choices of one beside the crowd's place", beside.choices(code(0, 2, place, other)), 0);
+            due("choices of two beside the crowd's place", beside.choices(code(0, 2, other, other)), 2);
             SymmetricChecker y = withRule(4, 4 * place, ANY, 4 * place + 3, 0);
             due("choices of four at the crowd's place", y.choices(code(0, 4, places(4, place))), 4);
             SymmetricChecker z = withRule(4, 4 * place, ANY, 4 * place + 2, 0);
@@ -283,19 +287,31 @@ public final class TermsBoundaryTest extends Answers {
         }
     }
 
-    /** Process 1 is the one that moves; -1 stands for a rule that it cannot take. */
     private static void holderAfterwards() {
         about("for token 1, p now holds the token; for token 2 no process holds it; otherwise the holder stays");
-        int[][] after = {{0, 1, 2, 3}, {-1, -1, -1, 1}, {-1, 3, -1, -1}, {-1, 1, -1, -1}, {0, -1, 2, 3}};
         for (int token = 0; token <= 4; token++) {
             SymmetricChecker x = withRule(3, 1, ANY, ROOM, token);
-            for (int holder = 0; holder <= 3; holder++) {
-                for (int next = 0; next <= 3; next++) {
-                    String call = "follows by token " + token + " from holder " + holder + " to " + next;
-                    int got = x.follows(code(1, holder, 2, 0, 2), code(1, next, 2, 1, 2));
-                    due(call, got, after[token][holder] == next ? 1 : 0);
+            for (int mover = 0; mover < 3; mover++) {
+                for (int holder = 0; holder <= 3; holder++) {
+                    dueHolder(x, token, mover, holder);
                 }
             }
+        }
+    }
+
+    /** The mover is the one at 0, and the holder 3 is none; -1 stands for a rule that cannot be taken. */
+    private static void dueHolder(SymmetricChecker x, int token, int mover, int holder) {
+        int[] whenItHolds = {holder, -1, 3, holder, -1};
+        int[] whenNoneHolds = {holder, mover, -1, -1, holder};
+        int[] whenAnotherHolds = {holder, -1, -1, -1, holder};
+        int[] after = holder == mover ? whenItHolds : holder == 3 ? whenNoneHolds : whenAnotherHolds;
+        int[] places = places(3, 2);
+        places[mover] = 0;
+        int before = code(1, holder, places);
+        places[mover] = 1;
+        for (int next = 0; next <= 3; next++) {
+            String call = "follows by token " + token + " and process " + mover + " from holder " + holder + " to " + next;
+            due(call, x.follows(before, code(1, next, places)), after[token] == next ? 1 : 0);
         }
     }
 
@@ -452,69 +468,48 @@ public final class TermsBoundaryTest extends Answers {
         due("badStates() where up to three ring", x.badStates(), 6);
     }
 
+    /** Each question alone on a new object, then all of them on one object, there and back. */
     private static void questionsChangeNothing() {
         about("No question changes anything.");
-        dueNoChange("processes()", x -> x.processes());
-        dueNoChange("limit()", x -> x.limit());
-        dueNoChange("rules()", x -> x.rules());
-        dueNoChange("reachable()", x -> x.reachable());
-        dueNoChange("radius()", x -> x.radius());
-        dueNoChange("badStates()", x -> x.badStates());
-        dueNoChange("violation()", x -> x.violation());
-        dueNoChange("stuckStates()", x -> x.stuckStates());
-        dueNoChange("endless()", x -> x.endless());
-        for (int any : new int[] {LOW, -1, 0, 1, 8, 17, 1214, HIGH}) {
-            dueNoChange("depth(" + any + ")", x -> x.depth(any));
-            dueNoChange("layer(" + any + ")", x -> x.layer(any));
-            dueNoChange("choices(" + any + ")", x -> x.choices(any));
-            dueNoChange("trace(" + any + ")", x -> x.trace(any));
-            dueNoChange("follows(" + any + ", 1)", x -> x.follows(any, 1));
-            dueNoChange("follows(9, " + any + ")", x -> x.follows(9, any));
+        for (int number = 0; number < SITUATIONS; number++) {
+            List<Question> questions = questions(situation(number));
+            int[] alone = answersOfNewObjects(number, questions);
+            SymmetricChecker x = situation(number);
+            for (int k = 0; k < questions.size(); k++) {
+                dueAsAlone(x, questions.get(k), alone[k], "after those before it in situation " + number);
+            }
+            for (int k = questions.size() - 1; k >= 0; k--) {
+                dueAsAlone(x, questions.get(k), alone[k], "after those behind it in situation " + number);
+            }
+            due("the hash of what situation " + number + " holds afterwards", takenApart(x), takenApart(situation(number)));
         }
     }
 
     private static void refusedCallsChangeNothing() {
         about("A refused call changes nothing.");
-        for (int bad : new int[] {LOW, -1, 16, HIGH}) {
-            dueNoChange("addRule(" + bad + ", 1, 11, 0)", x -> x.addRule(bad, 1, 11, 0));
-            dueNoChange("addRule(1, " + bad + ", 11, 0)", x -> x.addRule(1, bad, 11, 0));
-            dueNoChange("addRule(1, 1, " + bad + ", 0)", x -> x.addRule(1, 1, bad, 0));
-            dueNoChange("addRule(1, 1, 11, " + bad + ")", x -> x.addRule(1, 1, 11, bad));
-            dueNoChange("dropRule(" + bad + ")", x -> x.dropRule(bad));
-            dueNoChange("addAlarm(" + bad + ", 1, 3)", x -> x.addAlarm(bad, 1, 3));
-            dueNoChange("addAlarm(0, " + bad + ", 3)", x -> x.addAlarm(0, bad, 3));
-            dueNoChange("addAlarm(0, 1, " + bad + ")", x -> x.addAlarm(0, 1, bad));
-        }
-        for (int full = 2; full < SITUATIONS; full++) {
-            dueNoChangeIn(full, "addRule(2, 2, 11, 0)", x -> due("addRule to 12", x.addRule(2, 2, 11, 0), -5));
-            dueNoChangeIn(full, "addAlarm(0, 1, 3)", x -> due("addAlarm to 4", x.addAlarm(0, 1, 3), -4));
-            dueNoChangeIn(full, "dropRule(12)", x -> due("dropRule(12) of 12", x.dropRule(12), -1));
-        }
-        dueNoChangeIn(0, "dropRule(0)", x -> due("dropRule(0) of none", x.dropRule(0), -1));
-        dueNoChangeIn(1, "dropRule(5)", x -> due("dropRule(5) of 5", x.dropRule(5), -1));
-    }
-
-    private static void dueNoChange(String call, Consumer<SymmetricChecker> calling) {
         for (int number = 0; number < SITUATIONS; number++) {
-            dueNoChangeIn(number, call, calling);
-        }
-    }
-
-    /** An object that was called must answer like one that was not. */
-    private static void dueNoChangeIn(int number, String call, Consumer<SymmetricChecker> calling) {
-        SymmetricChecker x = situation(number);
-        calling.accept(x);
-        List<String> got = allAnswers(x);
-        List<String> want = allAnswers(situation(number));
-        int changed = 0;
-        String first = "";
-        for (int n = 0; n < want.size(); n++) {
-            if (!got.get(n).equals(want.get(n))) {
-                first = changed == 0 ? got.get(n) + " instead of " + want.get(n) : first;
-                changed++;
+            List<Question> questions = questions(situation(number));
+            int[] alone = answersOfNewObjects(number, questions);
+            for (Question refused : refusedCalls(number)) {
+                SymmetricChecker x = situation(number);
+                String after = "after " + refused.name() + " in situation " + number;
+                due(refused.name() + " in situation " + number, refused.answer().applyAsInt(x) < 0 ? 1 : 0, 1);
+                for (int k = 0; k < questions.size(); k++) {
+                    dueAsAlone(x, questions.get(k), alone[k], after);
+                }
+                due("the hash of what is held " + after, takenApart(x), takenApart(situation(number)));
             }
         }
-        due("the count of answers that " + call + " changes in situation " + number + " " + first, changed, 0);
+    }
+
+    record Question(String name, ToIntFunction<SymmetricChecker> answer) { }
+
+    private static int[] answersOfNewObjects(int number, List<Question> questions) {
+        return questions.stream().mapToInt(q -> q.answer().applyAsInt(situation(number))).toArray();
+    }
+
+    private static void dueAsAlone(SymmetricChecker x, Question question, int alone, String after) {
+        due(question.name() + " " + after, question.answer().applyAsInt(x), alone);
     }
 
     private static final int SITUATIONS = 4;
@@ -530,38 +525,72 @@ public final class TermsBoundaryTest extends Answers {
         if (number > 1) {
             x.addAlarm(1, 2, 1);
             x.addAlarm(0, 3, 2);
-            for (int n = x.rules(); n < 12; n++) {
+            for (int n = number == 3 ? 7 : 5; n < 12; n++) {
                 x.addRule(n % 9, 16 - n, n - 1, n % 5);
             }
         }
         return x;
     }
 
-    /** All that an object tells in some 450 calls; they empty its lists at last, to tell what was in them. */
-    private static List<String> allAnswers(SymmetricChecker x) {
-        List<String> answers = new ArrayList<>();
-        int limit = x.limit();
-        for (int k = 0; k < 18; k++) {
+    private static List<Question> questions(SymmetricChecker like) {
+        int limit = like.limit();
+        List<Question> all = new ArrayList<>();
+        all.add(new Question("processes()", x -> x.processes()));
+        all.add(new Question("limit()", x -> x.limit()));
+        all.add(new Question("rules()", x -> x.rules()));
+        all.add(new Question("reachable()", x -> x.reachable()));
+        all.add(new Question("radius()", x -> x.radius()));
+        all.add(new Question("badStates()", x -> x.badStates()));
+        all.add(new Question("violation()", x -> x.violation()));
+        all.add(new Question("stuckStates()", x -> x.stuckStates()));
+        all.add(new Question("endless()", x -> x.endless()));
+        for (int depth : new int[] {LOW, -1, 0, 1, 2, 3, 8, 9, 17, 18, HIGH}) {
+            all.add(new Question("layer(" + depth + ")", x -> x.layer(depth)));
+            all.add(new Question("trace(" + depth + ")", x -> x.trace(depth)));
+        }
+        for (int k = -1; k <= 18; k++) {
             int code = k * limit / 18;
-            answers.add("depth(" + code + ") " + x.depth(code));
-            answers.add("choices(" + code + ") " + x.choices(code));
-            answers.add("layer(" + k + ") " + x.layer(k));
-            answers.add("trace(" + (k - 1) + ") " + x.trace(k - 1));
-            for (int further = 0; further < 18; further++) {
-                int next = (code + further) % limit;
-                answers.add("follows(" + code + ", " + next + ") " + x.follows(code, next));
+            all.add(new Question("depth(" + code + ")", x -> x.depth(code)));
+            all.add(new Question("choices(" + code + ")", x -> x.choices(code)));
+            for (int next : new int[] {code, code + 1, code + 2, code - 2}) {
+                all.add(new Question("follows(" + code + ", " + next + ")", x -> x.follows(code, next)));
             }
         }
-        answers.add("limit() " + limit + ", processes() " + x.processes() + ", rules() " + x.rules());
-        answers.add("radius() " + x.radius() + ", stuckStates() " + x.stuckStates() + ", endless() " + x.endless());
-        answers.add("violation() " + x.violation() + ", badStates() " + x.badStates());
-        int start = start(x.processes());
-        for (int left = 12; left > 0; left--) {
-            answers.add("reachable() " + x.reachable() + ", choices(start) " + x.choices(start));
-            answers.add("dropRule(0) " + x.dropRule(0));
+        return all;
+    }
+
+    /** Among these are rules and alarms unlike those of the situations, so that one left behind is seen. */
+    private static List<Question> refusedCalls(int number) {
+        List<Question> all = new ArrayList<>();
+        for (int bad : new int[] {LOW, -1, 16, HIGH}) {
+            all.add(new Question("addRule(" + bad + ", 2, 11, 0)", x -> x.addRule(bad, 2, 11, 0)));
+            all.add(new Question("addRule(2, " + bad + ", 11, 0)", x -> x.addRule(2, bad, 11, 0)));
+            all.add(new Question("addRule(2, 2, " + bad + ", 0)", x -> x.addRule(2, 2, bad, 0)));
+            all.add(new Question("addRule(2, 2, 11, " + bad + ")", x -> x.addRule(2, 2, 11, bad)));
+            all.add(new Question("dropRule(" + bad + ")", x -> x.dropRule(bad)));
+            all.add(new Question("addAlarm(" + bad + ", 1, 3)", x -> x.addAlarm(bad, 1, 3)));
+            all.add(new Question("addAlarm(0, " + bad + ", 3)", x -> x.addAlarm(0, bad, 3)));
+            all.add(new Question("addAlarm(0, 1, " + bad + ")", x -> x.addAlarm(0, 1, bad)));
         }
-        answers.add("clearAlarms() " + x.clearAlarms());
-        return answers;
+        int rules = number == 0 ? 0 : number == 1 ? 5 : 12;
+        all.add(new Question("dropRule(" + rules + ")", x -> x.dropRule(rules)));
+        if (rules == 12) {
+            all.add(new Question("addRule(2, 2, 11, 0)", x -> x.addRule(2, 2, 11, 0)));
+            all.add(new Question("addAlarm(0, 1, 3)", x -> x.addAlarm(0, 1, 3)));
+        }
+        return all;
+    }
+
+    /** Empties the lists, rule by rule, and answers a number made of all that is told meanwhile. */
+    private static int takenApart(SymmetricChecker x) {
+        int hash = 0;
+        for (int left = 12; left > 0; left--) {
+            hash = 31 * hash + x.dropRule(0);
+            hash = 31 * hash + x.reachable();
+            hash = 31 * hash + x.badStates();
+            hash = 31 * hash + x.choices(start(x.processes()));
+        }
+        return 31 * hash + x.clearAlarms();
     }
 
     /** Every mixture of good, too small and too large arguments, for lists with room and for full ones. */

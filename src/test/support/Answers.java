@@ -11,6 +11,16 @@ class Answers {
     private static int asked = 0;
     private static int wrong = 0;
 
+    /** No call may ever throw, and one that does must not hide what the other tests find. */
+    static void test(Runnable test) {
+        try {
+            test.run();
+        } catch (RuntimeException e) {
+            asked++;
+            fail(e + " was thrown");
+        }
+    }
+
     /** Names what the next answers are about. A topic without answers would hold whatever the class does. */
     static void about(String words) {
         if (topics > 0 && asked == 0) {
